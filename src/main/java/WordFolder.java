@@ -9,6 +9,7 @@ public final class WordFolder {
 
     private static final int OTHER = -2;
     private static final int TOO_MUCH = -3;
+    private static final int TOLD_OTHERWISE = -3;
     private static final int FULL_SAMPLE = -4;
     private static final int FULL_TREE = -5;
 
@@ -42,10 +43,10 @@ public final class WordFolder {
     private final Learner learner = new Learner();
     private final Tree otherTree = new Tree();
     private final Learner otherLearner = new Learner();
-    private final Machine present = new Machine();
-    private final Machine smallest = new Machine();
-    private final Machine aim = new Machine();
-    private final Machine stored = new Machine();
+    private final Machine present = new Machine(MOST_NODES);
+    private final Machine smallest = new Machine(MOST_TRIED);
+    private final Machine aim = new Machine(MOST_TOLD);
+    private final Machine stored = new Machine(MOST_STATES);
     private final Search search = new Search();
     private final Reader reader = new Reader();
     private final Meter meter = new Meter();
@@ -137,7 +138,7 @@ public final class WordFolder {
     private int addExample(int code, boolean isIn) {
         int place = sample.placeOf(code);
         if (sample.holds(code)) {
-            return sample.isIn(place) == isIn ? tree.count : TOO_MUCH;
+            return sample.isIn(place) == isIn ? tree.count : TOLD_OTHERWISE;
         }
         if (sample.count >= MOST_EXAMPLES) {
             return FULL_SAMPLE;
@@ -831,6 +832,9 @@ public final class WordFolder {
 
         /** MERGES two STATES, unless that FAILS: then all is as it was. */
         boolean join(int i, int j) {
+            if (i < 0 || i >= nodes || j < 0 || j >= nodes) {
+                return false;
+            }
             int earlier = joins;
             waitingOne[0] = i;
             waitingOther[0] = j;
@@ -839,7 +843,7 @@ public final class WordFolder {
                 waiting--;
                 int one = nameOf(waitingOne[waiting]);
                 int other = nameOf(waitingOther[waiting]);
-                if (one == other || one < 0 || other < 0) {
+                if (one == other) {
                     continue;
                 }
                 if ((mark[one] | mark[other]) == (MARK_IN | MARK_NOT)) {
@@ -862,7 +866,7 @@ public final class WordFolder {
             } else if (mark[other] != 0) {
                 marked--;
             }
-            red[least] |= red[other];
+            red[least] = red[least] || red[other];
             for (int letter = 0; letter < MOST_LETTERS; letter++) {
                 int from = least * MOST_LETTERS + letter;
                 int to = arrow[other * MOST_LETTERS + letter];
@@ -1050,7 +1054,7 @@ public final class WordFolder {
                 boolean fits = false;
                 for (int r = 0; r < redCount; r++) {
                     int points = fold.worth(how, blues[b], reds[r]);
-                    fits |= points != NONE;
+                    fits = fits || points != NONE;
                     if (points > best) {
                         best = points;
                         bestBlue = blues[b];
@@ -1118,27 +1122,32 @@ public final class WordFolder {
 
     /** STATES with MARKS and ARROWS; without STATES it stands for no MACHINE. */
     private static final class Machine {
-        private final int[] mark = new int[MOST_STATES];
-        private final int[] arrow = new int[MOST_STATES * MOST_LETTERS];
+        private final int[] mark;
+        private final int[] arrow;
         private int count;
+
+        Machine(int most) {
+            mark = new int[Math.max(0, most)];
+            arrow = new int[Math.max(0, most) * MOST_LETTERS];
+        }
 
         void clear() {
             count = 0;
         }
 
         boolean has(int s) {
-            return s >= 0 && s < count && s < MOST_STATES;
+            return s >= 0 && s < count && s < mark.length;
         }
 
         void copy(Machine other) {
-            count = Math.min(other.count, MOST_STATES);
+            count = Math.min(other.count, mark.length);
             System.arraycopy(other.mark, 0, mark, 0, count);
             System.arraycopy(other.arrow, 0, arrow, 0, count * MOST_LETTERS);
         }
 
         /** A STATE more, without ARROWS. */
         void add(int itsMark) {
-            if (count < 0 || count >= MOST_STATES) {
+            if (count < 0 || count >= mark.length) {
                 return;
             }
             mark[count] = itsMark;
@@ -1154,8 +1163,13 @@ public final class WordFolder {
             }
         }
 
+        /** The STATE to which an ARROW goes, or NONE. */
         int follow(int s, int letter) {
-            return has(s) && letter >= 0 && letter < MOST_LETTERS ? arrow[s * MOST_LETTERS + letter] : NONE;
+            if (!has(s) || letter < 0 || letter >= MOST_LETTERS) {
+                return NONE;
+            }
+            int to = arrow[s * MOST_LETTERS + letter];
+            return has(to) ? to : NONE;
         }
 
         boolean isIn(int s) {
@@ -1172,7 +1186,7 @@ public final class WordFolder {
         }
 
         void write(Octets out, int alphabet) {
-            for (int s = 0; s < count && s < MOST_STATES; s++) {
+            for (int s = 0; has(s); s++) {
                 out.put(signOf(mark[s]));
                 for (int letter = 0; letter < alphabet; letter++) {
                     int to = follow(s, letter);
@@ -1320,7 +1334,7 @@ public final class WordFolder {
 
     /** Reads a TEXT, byte by byte. */
     private static final class Reader {
-        private final Machine told = new Machine();
+        private final Machine told = new Machine(MOST_TOLD);
         private final int[] digitAt = new int[MOST_TOLD * MOST_LETTERS];
         private int place;
 
@@ -1378,8 +1392,9 @@ public final class WordFolder {
         private int lostDigit(int alphabet) {
             for (int s = 0; s < told.count && s < MOST_TOLD; s++) {
                 for (int letter = 0; letter < alphabet && letter < MOST_LETTERS; letter++) {
-                    if (told.follow(s, letter) >= told.count) {
-                        return digitAt[s * MOST_LETTERS + letter];
+                    int where = s * MOST_LETTERS + letter;
+                    if (told.arrow[where] >= told.count) {
+                        return digitAt[where];
                     }
                 }
             }
@@ -1565,50 +1580,68 @@ public final class WordFolder {
         private static final int IN_ONE = 1;
         private static final int IN_FIRST_ALONE = 2;
 
-        /** The numbers that make pairs are below it: STATES from 1 on (0 stands for NONE), kinds, MARKS. */
+        /** STATES and NONE. */
         private static final int WIDE = MOST_STATES + 1;
+        /** As many as there are of both MACHINES: findApart() makes two of them one with each pair that it notes. */
+        private static final int MOST_PAIRS = 2 * WIDE;
 
-        private final int[] place = new int[WIDE * WIDE];
-        private final int[] pair = new int[WIDE * WIDE];
-        private final int[] way = new int[WIDE * WIDE];
-        private int pairs;
-        private final Machine made = new Machine();
+        private final Machine made = new Machine(MOST_STATES);
+        private final int[] first = new int[MOST_PAIRS];
+        private final int[] second = new int[MOST_PAIRS];
+        private final int[] way = new int[MOST_PAIRS];
+        private final int[] earlier = new int[MOST_PAIRS];
+        private final int[] latest = new int[WIDE];
+        private final int[] lead = new int[2 * WIDE];
         private final int[] kind = new int[MOST_STATES];
         private final int[] newKind = new int[MOST_STATES];
+        private int pairs;
         private int kinds;
 
         private void forgetPairs() {
-            for (int k = 0; k < pairs && k < pair.length; k++) {
-                place[pair[k]] = 0;
-            }
             pairs = 0;
+            for (int k = 0; k < WIDE; k++) {
+                latest[k] = NONE;
+            }
         }
 
-        /** Pairs are numbered as they come: the number of this one, a new one if it was not there. */
+        /** Pairs of numbers (or NONE) are numbered as they come: the number of this one, a new one if it is not there. */
         private int numberOf(int one, int other) {
-            if (one < 0 || one >= WIDE || other < 0 || other >= WIDE) {
+            if (one < NONE || one >= MOST_STATES) {
                 return NONE;
             }
-            int key = one * WIDE + other;
-            if (place[key] == 0 && pairs < pair.length) {
-                pair[pairs] = key;
-                pairs++;
-                place[key] = pairs;
+            for (int k = latest[one + 1]; k >= 0 && k < pairs; k = earlier[k]) {
+                if (second[k] == other) {
+                    return k;
+                }
             }
-            return place[key] - 1;
+            int number = note(one, other, 0);
+            if (number != NONE) {
+                earlier[number] = latest[one + 1];
+                latest[one + 1] = number;
+            }
+            return number;
+        }
+
+        private int note(int one, int other, int itsWay) {
+            if (pairs < 0 || pairs >= MOST_PAIRS) {
+                return NONE;
+            }
+            first[pairs] = one;
+            second[pairs] = other;
+            way[pairs] = itsWay;
+            pairs++;
+            return pairs - 1;
         }
 
         /** Puts two MACHINES together, with all ARROWS; false if there would be more STATES than that. */
         boolean putTogether(Machine one, Machine other, int how, int alphabet, int most) {
             made.clear();
             forgetPairs();
-            numberOf(1, 1);
+            numberOf(0, 0);
             for (int k = 0; k < pairs && k < MOST_STATES; k++) {
-                int s = pair[k] / WIDE - 1;
-                int t = pair[k] % WIDE - 1;
-                made.add(isIn(one.isIn(s), other.isIn(t), how) ? MARK_IN : MARK_NOT);
+                made.add(isIn(one.isIn(first[k]), other.isIn(second[k]), how) ? MARK_IN : MARK_NOT);
                 for (int letter = 0; letter < alphabet; letter++) {
-                    made.link(k, letter, numberOf(one.follow(s, letter) + 1, other.follow(t, letter) + 1));
+                    made.link(k, letter, numberOf(one.follow(first[k], letter), other.follow(second[k], letter)));
                 }
                 if (pairs > most) {
                     return false;
@@ -1624,25 +1657,29 @@ public final class WordFolder {
             return how == IN_ONE ? isInOne || isInOther : isInOne && !isInOther;
         }
 
-        /** The first pair of which one alone is IN, by ORDER of the WORDS that lead there; NONE if there is none. */
+        /**
+         * The first pair of which one alone is IN, by ORDER of the WORDS that lead there; NONE if there is none. STATES
+         * of a pair are held to be one from then on, and a pair of STATES that are one already is passed over: what
+         * tells such a pair apart tells an earlier pair apart, too.
+         */
         int findApart(Machine one, Machine other, int alphabet) {
-            forgetPairs();
-            numberOf(1, 1);
+            pairs = 0;
+            for (int k = 0; k < 2 * WIDE; k++) {
+                lead[k] = k;
+            }
+            unite(0, 0);
+            note(0, 0, 0);
             if (one.isIn(0) != other.isIn(0)) {
                 return 0;
             }
-            for (int k = 0; k < pairs && k < pair.length; k++) {
-                int s = pair[k] / WIDE - 1;
-                int t = pair[k] % WIDE - 1;
+            for (int k = 0; k < pairs && k < MOST_PAIRS; k++) {
                 for (int letter = 0; letter < alphabet; letter++) {
-                    int known = pairs;
-                    int toOne = one.follow(s, letter);
-                    int toOther = other.follow(t, letter);
-                    int to = numberOf(toOne + 1, toOther + 1);
-                    if (to == known) {
-                        way[to] = k * MOST_LETTERS + letter;
-                        if (one.isIn(toOne) != other.isIn(toOther)) {
-                            return to;
+                    int s = one.follow(first[k], letter);
+                    int t = other.follow(second[k], letter);
+                    if (unite(s, t)) {
+                        int number = note(s, t, k * MOST_LETTERS + letter);
+                        if (one.isIn(s) != other.isIn(t)) {
+                            return number;
                         }
                     }
                 }
@@ -1650,11 +1687,28 @@ public final class WordFolder {
             return NONE;
         }
 
+        /** Whether the STATES (or NONE) of the one and the other MACHINE were not one yet. */
+        private boolean unite(int s, int t) {
+            int one = leadOf(s + 1);
+            int other = leadOf(t + 1 + WIDE);
+            lead[one] = other;
+            return one != other;
+        }
+
+        private int leadOf(int start) {
+            int k = start;
+            for (int steps = 0; steps < 2 * WIDE && lead[k] != k; steps++) {
+                lead[k] = lead[lead[k]];
+                k = lead[k];
+            }
+            return k;
+        }
+
         /** Writes the WORD by which a pair was come to first. */
         void writeWay(int found, Octets out) {
             out.cut(0);
             int k = found;
-            for (int steps = 0; steps < MOST_WRITTEN && k > 0 && k < way.length; steps++) {
+            for (int steps = 0; steps < MOST_PAIRS && k > 0 && k < MOST_PAIRS; steps++) {
                 out.put('a' + way[k] % MOST_LETTERS);
                 k = way[k] / MOST_LETTERS;
             }
@@ -1667,14 +1721,10 @@ public final class WordFolder {
          */
         int shrink(Machine one, int alphabet) {
             putTogether(one, one, IN_BOTH, alphabet, MOST_STATES);
-            for (int s = 0; s < MOST_STATES; s++) {
-                kind[s] = 0;
-            }
-            kinds = 1;
             splitByMark();
-            int earlier = 0;
-            for (int turn = 0; turn < MOST_STATES && earlier < kinds; turn++) {
-                earlier = kinds;
+            int kindsThen = 0;
+            for (int turn = 0; turn < MOST_STATES && kindsThen < kinds; turn++) {
+                kindsThen = kinds;
                 for (int letter = 0; letter < alphabet; letter++) {
                     splitByLetter(letter);
                 }
@@ -1685,7 +1735,7 @@ public final class WordFolder {
         private void splitByMark() {
             forgetPairs();
             for (int s = 0; s < made.count && s < MOST_STATES; s++) {
-                newKind[s] = numberOf(kind[s], made.mark[s]);
+                newKind[s] = numberOf(0, made.mark[s]);
             }
             takeKinds();
         }
@@ -1693,10 +1743,13 @@ public final class WordFolder {
         private void splitByLetter(int letter) {
             forgetPairs();
             for (int s = 0; s < made.count && s < MOST_STATES; s++) {
-                int to = made.follow(s, letter);
-                newKind[s] = numberOf(kind[s], made.has(to) ? kind[to] : 0);
+                newKind[s] = numberOf(kind[s], kindOf(made.follow(s, letter)));
             }
             takeKinds();
+        }
+
+        private int kindOf(int s) {
+            return made.has(s) ? kind[s] : NONE;
         }
 
         private void takeKinds() {
@@ -1711,8 +1764,7 @@ public final class WordFolder {
                 if (kind[s] == machine.count) {
                     machine.add(made.mark[s]);
                     for (int letter = 0; letter < alphabet; letter++) {
-                        int to = made.follow(s, letter);
-                        machine.link(kind[s], letter, made.has(to) ? kind[to] : NONE);
+                        machine.link(kind[s], letter, kindOf(made.follow(s, letter)));
                     }
                 }
             }
