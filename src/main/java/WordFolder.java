@@ -1186,7 +1186,7 @@ public final class WordFolder {
         }
 
         void write(Octets out, int alphabet) {
-            for (int s = 0; has(s); s++) {
+            for (int s = 0; s < count && s < mark.length; s++) {
                 out.put(signOf(mark[s]));
                 for (int letter = 0; letter < alphabet; letter++) {
                     int to = follow(s, letter);
@@ -1604,7 +1604,10 @@ public final class WordFolder {
             }
         }
 
-        /** Pairs of numbers (or NONE) are numbered as they come: the number of this one, a new one if it is not there. */
+        /**
+         * Pairs of numbers (or NONE) are numbered as they come: the number of this one, a new one if it is not there.
+         * Those with the same first part make a chain, each with a lower number than the one before.
+         */
         private int numberOf(int one, int other) {
             if (one < NONE || one >= MOST_STATES) {
                 return NONE;
