@@ -17,6 +17,8 @@ public final class BoundsOfMachines {
         takesOthers();
         words();
         apart();
+        apartByOrder();
+        apartFar();
         apartNone();
         small();
         tight();
@@ -319,6 +321,11 @@ public final class BoundsOfMachines {
         t.due("200 letters", ring.apart(3, 2), 200);
         t.due("the empty word", ring.apart(0, 3), 0);
         t.due("nothing is left of what was written", ring.octet(0), -1);
+    }
+
+    private static void apartByOrder() {
+        t.of(26, "The first WORD by ORDER, be it longer than 10 LETTERS, that one of MACHINES m, o takes and the other one doesn't is "
+            + "written: how many bytes.");
         // a, b of like length: ab is ahead of ba, b is ahead of aa
         Folder two = with("-a1b2;-b3;-a3;+;");
         two.keep(2);
@@ -333,6 +340,22 @@ public final class BoundsOfMachines {
         Folder four = with(4, "-d1;-d2;-d3;+;");
         t.due("ddd", four.apart(0, 2), 3);
         t.due("ddd", four.written(), "ddd");
+        // a MARK of 0 is as good as one of 2
+        Folder marks = with("?a0b0;");
+        marks.keep(2);
+        marks.target("-a0b0;");
+        t.due("neither takes a word", marks.apart(2, 3), -2);
+        // the first state of one with the second state of the other
+        Folder second = with("+a1;-;");
+        second.keep(2);
+        second.target("+a0;");
+        t.due("a", second.apart(2, 3), 1);
+        t.due("a", second.apart(3, 2), 1);
+    }
+
+    private static void apartFar() {
+        t.of(26, "The first WORD by ORDER, be it longer than 10 LETTERS, that one of MACHINES m, o takes and the other one doesn't is "
+            + "written: how many bytes.");
         // each letter leads on: the first way is that of a's
         Folder wide = with(4, wideChain(40, 4));
         t.due("a chain of 40 by four letters", wide.apart(0, 2), 39);
@@ -349,26 +372,16 @@ public final class BoundsOfMachines {
         t.due("the last one", far.octet(238), 'a');
         t.due("no more", far.octet(239), -1);
         t.due("told the other way round", far.apart(2, 3), 239);
-        // the first state of one with the second state of the other
-        Folder second = with("+a1;-;");
-        second.keep(2);
-        second.target("+a0;");
-        t.due("a", second.apart(2, 3), 1);
-        t.due("a", second.apart(3, 2), 1);
         // where there is no arrow, asked again and again
         Folder again = with("+a0b0;");
         again.keep(2);
         again.target("+;");
         for (int k = 0; k < 3; k++) {
             t.due("a, again", again.apart(2, 3), 1);
+            t.due("a, at once again", again.apart(2, 3), 1);
             t.due("a, again", again.apart(3, 2), 1);
             t.due("none, again", again.apart(2, 2), -2);
         }
-        // a MARK of 0 is as good as one of 2
-        Folder marks = with("?a0b0;");
-        marks.keep(2);
-        marks.target("-a0b0;");
-        t.due("neither takes a word", marks.apart(2, 3), -2);
     }
 
     /** A chain that takes each WORD of one LETTER fewer than STATES. */
@@ -437,7 +450,6 @@ public final class BoundsOfMachines {
         t.due("a ring of 200", ring.small(3), 200);
         t.due("nothing is kept", ring.states(3), 200);
         Folder tree = Bounds.withNodes(120);
-        // a path of ten for what is behind the second letter, abb.. aside: it and the others are told by hand below
         t.due("120 nodes", tree.small(0), smallOfNodes());
         t.changesNothing("small(3)", Bounds::full, x -> x.small(3), 4);
         t.of(27, "NONE for others.");
@@ -446,7 +458,8 @@ public final class BoundsOfMachines {
 
     /**
      * Of withNodes(120): the empty one; b, c, d are alike, a is not, as ab goes on by abb; aa, ac and the like are alike, ab is
-     * not; then aaaabbbb has 8 more, and bbaaaaaa 7 of its own till its end, which is that of the others; and where it ends.
+     * not; then aaaabbbb has 8 more; baaaaaa behind ab has 7, of which the last one is that of the others; and where all other
+     * ARROWS lead.
      */
     private static int smallOfNodes() {
         int others = 1 + 2 + 2;
@@ -744,7 +757,6 @@ public final class BoundsOfMachines {
         }
         t.due("a ring of 40", with(1, Bounds.lasso(0, 40, 1)).longest(2), -3);
         t.due("a ring of 200", Bounds.ring200(1).longest(3), -3);
-        // the first 199 STATES of a lasso lead to a ring of one that is IN or not
         t.due("a ring that can't come to one that is IN", with(1, Bounds.lasso(39, 1, 1)).longest(2), 0);
         t.due("a ring that can't be come to", with("+a1;+;-a2;+a3;").longest(2), 1);
         Folder again = new Folder();
