@@ -703,7 +703,7 @@ public final class WordFolder {
         private int placeOf(int word) {
             int low = 0;
             int high = Math.min(count, MOST_NODES);
-            while (low < high) {
+            for (int turn = 0; turn < MOST_NODES && low < high; turn++) {
                 int middle = low + high >> 1;
                 if (code[middle] < word) {
                     low = middle + 1;
@@ -1612,10 +1612,12 @@ public final class WordFolder {
             if (one < NONE || one >= MOST_STATES) {
                 return NONE;
             }
-            for (int k = latest[one + 1]; k >= 0 && k < pairs; k = earlier[k]) {
+            int k = latest[one + 1];
+            for (int steps = 0; steps < MOST_PAIRS && k >= 0 && k < pairs; steps++) {
                 if (second[k] == other) {
                     return k;
                 }
+                k = earlier[k];
             }
             int number = note(one, other, 0);
             if (number != NONE) {
